@@ -18,11 +18,11 @@ public final class AgainstPlainModel {
     private static int wrong = 0;
 
     public static void main(String[] args) {
-        for (int seed = 0; seed < 1200; seed++) {
+        for (int seed = 0; seed < 900 && wrong <= 20; seed++) {
             new Run(seed).go();
-            if (wrong > 20) {
-                break;
-            }
+        }
+        for (int seed = 0; seed < 900 && wrong <= 20; seed++) {
+            new Run(seed).coverMuch();
         }
         System.out.println(wrong == 0 ? "all answers are as due" : wrong + " answers are not as due");
         if (wrong != 0) {
@@ -49,8 +49,47 @@ public final class AgainstPlainModel {
 
         void go() {
             while (calls < CALLS && !failed) {
-                step();
+                int dice = random.nextInt(100);
+                if (dice < 22) {
+                    change();
+                } else {
+                    ask();
+                }
             }
+        }
+
+        /** Up to 17 CELLS between LAYERS of many SEAMS, some of them covered already. */
+        void coverMuch() {
+            int z = upTo(4);
+            for (int i = 0; i < 30; i++) {
+                put(upTo(6), upTo(1), upTo(5), upTo(5), z + 1 - 2 * upTo(1), 1);
+            }
+            for (int i = upTo(3); i > 0; i--) {
+                put(upTo(2), upTo(1), upTo(5), upTo(5), z, 2);
+            }
+            int wide = 3 + upTo(3);
+            int most = 10 + upTo(7);
+            for (int i = 0; i < 60 && most > 0 && !failed; i++) {
+                int x = random.nextInt(wide);
+                int y = random.nextInt(wide == 6 ? 4 : 6);
+                if (plain.cellOf(x, y, z) == 0) {
+                    due(call("cell", x, y, z, 3), real.cell(x, y, z, 3), plain.cell(x, y, z, 3));
+                    most--;
+                }
+            }
+            due(call("cover", 3, z), real.cover(3, z), plain.cover(3, z));
+            due(call("coverSeams", 3, z), real.coverSeams(3, z), plain.coverSeams(3, z));
+            for (int i = 0; i < 17 && !failed; i++) {
+                due(call("coverAt", 3, z, i), real.coverAt(3, z, i), plain.coverAt(3, z, i));
+            }
+            due("seams(true)", real.seams(true), plain.seams(true));
+            due(call("lay", 3, z), real.lay(3, z), plain.lay(3, z));
+            due("seams(true)", real.seams(true), plain.seams(true));
+        }
+
+        void put(int kind, int turn, int x, int y, int z, int colour) {
+            due(call("place", kind, turn, x, y, z, colour),
+                    real.place(kind, turn, x, y, z, colour), plain.place(kind, turn, x, y, z, colour));
         }
 
         int upTo(int most) {
@@ -70,15 +109,6 @@ public final class AgainstPlainModel {
 
         int aBrick() {
             return about(0, Math.max(0, plain.bricks.size() - 1));
-        }
-
-        void step() {
-            int dice = random.nextInt(100);
-            if (dice < 22) {
-                change();
-            } else {
-                ask();
-            }
         }
 
         void change() {
@@ -146,9 +176,7 @@ public final class AgainstPlainModel {
                     z = least;
                 }
             }
-            int colour = about(1, 5);
-            due(call("place", kind, turn, x, y, z, colour),
-                    real.place(kind, turn, x, y, z, colour), plain.place(kind, turn, x, y, z, colour));
+            put(kind, turn, x, y, z, about(1, 5));
         }
 
         int lowestFree(int x, int y) {

@@ -249,7 +249,7 @@ public final class BrickModels {
         if (bricks.howMany() > Orders.MOST) {
             return refuse(ROOM);
         }
-        orders.find();
+        orders.findRow();
         return orders.brickAtStep(k);
     }
 
@@ -321,7 +321,7 @@ public final class BrickModels {
         if (!isBrickColour(colour) || z < 0 || z >= HEIGHT) {
             return NOBODY;
         }
-        return covers.find(colour, z) ? 0 : ROOM;
+        return covers.findBest(colour, z) ? 0 : ROOM;
     }
 
     /** What of FIT a place is: MISSING 0, WRONG 1, BEYOND 2, or -1 if nothing is amiss there. */
@@ -944,7 +944,7 @@ public final class BrickModels {
         }
 
         /** Whether there are few enough CELLS. */
-        boolean find(int newColour, int newLayer) {
+        boolean findBest(int newColour, int newLayer) {
             if (newColour != colour || newLayer != layer) {
                 colour = newColour;
                 layer = newLayer;
@@ -1169,7 +1169,7 @@ public final class BrickModels {
             return k >= 0 && k < length ? row[k] : NONE;
         }
 
-        void find() {
+        void findRow() {
             if (isKnown) {
                 return;
             }
