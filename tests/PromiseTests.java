@@ -424,6 +424,11 @@ public final class PromiseTests {
         due("the last of 36", full.pieceOf(35, 3), 1);
         due("the first of 36", full.pieceOf(0, 3), 2);
         due("one behind", full.pieceOf(36, 3), -1);
+        BrickModels one = new BrickModels();
+        one.place(0, 0, 0, 0, 4, 1);
+        due("the only one", one.pieceOf(0, 1), 1);
+        due("one behind the only one", one.pieceOf(1, 1), -1);
+        due("sound() of the only one, which FLOATS", one.sound(), 0);
     }
 
     private static void stands() {
@@ -435,6 +440,11 @@ public final class PromiseTests {
         m.take(2);
         m.place(0, 0, 3, 0, 2, 1);
         due("the middle a sixth beyond it", m.pieceOf(0, 2), 0);
+        BrickModels hair = new BrickModels();
+        hair.place(1, 0, 0, 0, 0, 1);
+        hair.place(3, 0, 1, 0, 1, 1);
+        hair.place(0, 0, 0, 0, 1, 1);
+        due("the middle a fourteenth beyond it", hair.pieceOf(0, 2), 0);
         BrickModels along = new BrickModels();
         along.place(1, 1, 0, 4, 0, 1);
         along.place(2, 1, 0, 2, 1, 1);

@@ -818,8 +818,8 @@ public final class BrickModels {
                         int above = y - low * parts;
                         int fromLeft = x * rise - lineAt(lefts[low], lefts[high], rise * parts, above);
                         int fromRight = x * rise - lineAt(rights[low], rights[high], rise * parts, above);
-                        beyondLeft |= fromLeft >= 0;
-                        beyondRight |= fromRight <= 0;
+                        beyondLeft = beyondLeft || fromLeft >= 0;
+                        beyondRight = beyondRight || fromRight <= 0;
                     }
                 }
             }
