@@ -1,24 +1,8 @@
-import java.util.ArrayList;
-import java.util.List;
-
 /**
  * Promise by promise: ordinary inputs, the edges that the document names, and wrong inputs. A call
  * that is refused is looked at twice: that its refusal is counted, and that nothing else changed.
  */
-public final class PromiseTests {
-    private static final int LOWEST = Integer.MIN_VALUE;
-    private static final int HIGHEST = Integer.MAX_VALUE;
-    private static int wrong = 0;
-    private static int promise = 0;
-
-    private interface Setup {
-        void on(BrickModels m);
-    }
-
-    private interface Call {
-        int on(BrickModels m);
-    }
-
+public final class PromiseTests extends Checks {
     public static void main(String[] args) {
         newObject();
         cell();
@@ -52,121 +36,11 @@ public final class PromiseTests {
         brickOf();
         count();
         calmAnswers();
-        System.out.println(wrong == 0 ? "all answers are as due" : wrong + " answers are not as due");
-        if (wrong != 0) {
-            System.exit(1);
-        }
-    }
-
-    private static void due(String what, int got, int want) {
-        if (got != want) {
-            wrong++;
-            System.out.println("promise " + promise + ": " + what + " answered " + got + ", due is " + want);
-        }
-    }
-
-    private static void refused(String what, Setup setup, Call call, int want) {
-        BrickModels m = new BrickModels();
-        setup.on(m);
-        int[] before = new int[7];
-        for (int i = 1; i <= 6; i++) {
-            before[i] = m.count(10 + i);
-        }
-        due(what, call.on(m), want);
-        for (int i = 1; i <= 6; i++) {
-            due(what + ", then count(" + (10 + i) + ")", m.count(10 + i), before[i] + (i == -want ? 1 : 0));
-        }
-        unchanged(what, setup, call);
-    }
-
-    /** All that can be asked, with and without the call ahead; few enough calls to each object. */
-    private static void unchanged(String what, Setup setup, Call call) {
-        List<Call> probes = probes();
-        for (int from = 0; from < probes.size(); from += 250) {
-            BrickModels without = new BrickModels();
-            BrickModels with = new BrickModels();
-            setup.on(without);
-            setup.on(with);
-            call.on(with);
-            for (int i = from; i < Math.min(from + 250, probes.size()); i++) {
-                due(what + ", then probe " + i, probes.get(i).on(with), probes.get(i).on(without));
-            }
-        }
-    }
-
-    private static List<Call> probes() {
-        List<Call> all = new ArrayList<>();
-        for (int i = 0; i < 180; i++) {
-            int x = i % 6;
-            int y = i / 6 % 6;
-            int z = i / 36;
-            all.add(m -> m.cellOf(x, y, z));
-            all.add(m -> m.at(x, y, z));
-        }
-        for (int i = 0; i <= 5; i++) {
-            int what = i;
-            all.add(m -> m.count(what));
-        }
-        for (int i = 0; i < 7; i++) {
-            int what = i;
-            for (int j = 0; j < 5; j++) {
-                int brick = j;
-                all.add(m -> m.brickOf(brick, what));
-            }
-            all.add(m -> m.brickOf(39, what));
-        }
-        for (int i = 0; i < 7; i++) {
-            int kind = i;
-            all.add(m -> m.lacks(kind));
-            all.add(m -> m.box(kind, 0));
-        }
-        all.add(BrickModels::sound);
-        all.add(BrickModels::pieces);
-        all.add(m -> m.order(1));
-        all.add(m -> m.cover(1, 0));
-        all.add(m -> m.coverAt(1, 0, 0));
-        all.add(m -> m.place(0, 0, 5, 5, 4, 1));
-        return all;
-    }
-
-    private static void nothing(BrickModels m) {
-    }
-
-    /** A tower of two BRICKS, a floating one, one that is GONE, some CELLS, some in the BOX. */
-    private static void some(BrickModels m) {
-        m.place(4, 0, 0, 0, 0, 1);
-        m.place(6, 0, 0, 0, 1, 2);
-        m.place(0, 1, 5, 5, 3, 3);
-        m.place(1, 1, 4, 4, 0, 4);
-        m.take(3);
-        m.cell(0, 0, 0, 1);
-        m.cell(4, 0, 0, 1);
-        m.cell(4, 1, 0, 1);
-        m.cell(5, 5, 4, 5);
-        m.box(1, 3);
-        m.box(6, 1);
-        m.grip(2);
-    }
-
-    /** 36 BRICKS in LAYER 0 and 4 in LAYER 1: all that may ever be placed. */
-    private static void forty(BrickModels m) {
-        for (int i = 0; i < 40; i++) {
-            m.place(0, 0, i % 6, i / 6 % 6, i / 36, 1);
-        }
-    }
-
-    private static void cells(BrickModels m, int z, int colour, String... rows) {
-        for (int y = 0; y < rows.length; y++) {
-            for (int x = 0; x < rows[y].length(); x++) {
-                if (rows[y].charAt(x) == '#') {
-                    m.cell(x, y, z, colour);
-                }
-            }
-        }
+        end();
     }
 
     private static void newObject() {
-        promise = 1;
+        tested = "promise 1";
         BrickModels m = new BrickModels();
         int sum = 0;
         for (int i = 0; i < 180; i++) {
@@ -193,7 +67,7 @@ public final class PromiseTests {
     }
 
     private static void cell() {
-        promise = 2;
+        tested = "promise 2";
         BrickModels m = new BrickModels();
         due("the first", m.cell(0, 0, 0, 1), 0);
         due("the last", m.cell(5, 5, 4, 5), 0);
@@ -210,7 +84,7 @@ public final class PromiseTests {
     }
 
     private static void cellOf() {
-        promise = 3;
+        tested = "promise 3";
         BrickModels m = new BrickModels();
         m.cell(0, 5, 0, 2);
         m.cell(5, 0, 4, 3);
@@ -225,7 +99,7 @@ public final class PromiseTests {
     }
 
     private static void inner() {
-        promise = 4;
+        tested = "promise 4";
         BrickModels m = new BrickModels();
         for (int i = 0; i < 180; i++) {
             m.cell(i % 6, i / 6 % 6, i / 36, 1 + i % 5);
@@ -249,7 +123,7 @@ public final class PromiseTests {
     }
 
     private static void place() {
-        promise = 5;
+        tested = "promise 5";
         int[] lengths = {1, 2, 3, 4, 2, 3, 4};
         int[] widths = {1, 1, 1, 1, 2, 2, 2};
         for (int kind = 0; kind < 7; kind++) {
@@ -301,7 +175,7 @@ public final class PromiseTests {
     }
 
     private static void take() {
-        promise = 6;
+        tested = "promise 6";
         BrickModels m = new BrickModels();
         some(m);
         due("take(0)", m.take(0), 1);
@@ -324,7 +198,7 @@ public final class PromiseTests {
     }
 
     private static void at() {
-        promise = 7;
+        tested = "promise 7";
         BrickModels m = new BrickModels();
         some(m);
         due("at(0, 0, 0)", m.at(0, 0, 0), 0);
@@ -341,7 +215,7 @@ public final class PromiseTests {
     }
 
     private static void studs() {
-        promise = 8;
+        tested = "promise 8";
         BrickModels m = new BrickModels();
         some(m);
         due("studs(0, 1)", m.studs(0, 1), 4);
@@ -364,7 +238,7 @@ public final class PromiseTests {
     }
 
     private static void pieces() {
-        promise = 9;
+        tested = "promise 9";
         BrickModels m = new BrickModels();
         m.place(6, 0, 0, 0, 0, 1);
         m.place(6, 0, 0, 2, 0, 1);
@@ -383,7 +257,7 @@ public final class PromiseTests {
     }
 
     private static void piece() {
-        promise = 10;
+        tested = "promise 10";
         BrickModels m = new BrickModels();
         m.place(0, 0, 5, 5, 4, 1);
         m.place(0, 0, 0, 0, 0, 1);
@@ -403,7 +277,7 @@ public final class PromiseTests {
     }
 
     private static void pieceOf() {
-        promise = 11;
+        tested = "promise 11";
         BrickModels m = new BrickModels();
         some(m);
         int[] first = {12, 0, 1, 2};
@@ -475,7 +349,7 @@ public final class PromiseTests {
     }
 
     private static void key() {
-        promise = 12;
+        tested = "promise 12";
         BrickModels m = new BrickModels();
         m.place(0, 0, 0, 0, 0, 1);
         m.place(3, 0, 0, 0, 1, 1);
@@ -509,7 +383,7 @@ public final class PromiseTests {
     }
 
     private static void weak() {
-        promise = 13;
+        tested = "promise 13";
         BrickModels m = new BrickModels();
         m.place(4, 0, 2, 2, 0, 1);
         m.place(6, 0, 1, 2, 1, 1);
@@ -559,7 +433,7 @@ public final class PromiseTests {
     }
 
     private static void sound() {
-        promise = 14;
+        tested = "promise 14";
         BrickModels m = new BrickModels();
         due("no BRICKS", m.sound(), 1);
         m.place(0, 0, 0, 0, 0, 1);
@@ -588,7 +462,7 @@ public final class PromiseTests {
     }
 
     private static void grip() {
-        promise = 15;
+        tested = "promise 15";
         BrickModels m = new BrickModels();
         due("the first", m.grip(1), 8);
         due("the least", m.grip(40), 1);
@@ -601,7 +475,7 @@ public final class PromiseTests {
     }
 
     private static void fit() {
-        promise = 16;
+        tested = "promise 16";
         BrickModels m = new BrickModels();
         for (int z = 0; z < 3; z++) {
             cells(m, z, 2, "###", "###", "###");
@@ -629,7 +503,7 @@ public final class PromiseTests {
     }
 
     private static void seams() {
-        promise = 17;
+        tested = "promise 17";
         BrickModels m = new BrickModels();
         m.place(4, 0, 0, 0, 0, 1);
         m.place(4, 0, 2, 0, 0, 1);
@@ -658,7 +532,7 @@ public final class PromiseTests {
     private static final String[] FOUR = {"####", "####", "####", "####"};
 
     private static void cover() {
-        promise = 18;
+        tested = "promise 18";
         BrickModels m = new BrickModels();
         due("without CELLS", m.cover(5, 4), 0);
         cells(m, 0, 1, FOUR);
@@ -696,7 +570,7 @@ public final class PromiseTests {
     }
 
     private static void coverSeams() {
-        promise = 19;
+        tested = "promise 19";
         BrickModels m = new BrickModels();
         m.place(6, 0, 0, 0, 0, 1);
         m.place(6, 0, 0, 2, 0, 1);
@@ -740,7 +614,7 @@ public final class PromiseTests {
     }
 
     private static void coverAt() {
-        promise = 20;
+        tested = "promise 20";
         BrickModels m = new BrickModels();
         cells(m, 0, 1, "......", ".###..", ".###..", ".###..", "......", "#....#");
         due("coverAt 0", m.coverAt(1, 0, 0), 1105);
@@ -770,7 +644,7 @@ public final class PromiseTests {
     }
 
     private static void lay() {
-        promise = 21;
+        tested = "promise 21";
         BrickModels m = new BrickModels();
         cells(m, 2, 4, "####", "####", "#");
         due("lay(4, 2)", m.lay(4, 2), 2);
@@ -806,7 +680,7 @@ public final class PromiseTests {
     }
 
     private static void box() {
-        promise = 22;
+        tested = "promise 22";
         BrickModels m = new BrickModels();
         due("the first KIND", m.box(0, 99), 0);
         due("the last KIND", m.box(6, 1), 0);
@@ -824,7 +698,7 @@ public final class PromiseTests {
     }
 
     private static void lacking() {
-        promise = 23;
+        tested = "promise 23";
         int[][] parts = {null, {0, 0}, {0, 1}, {1, 1}, {1, 1}, {2, 2}, {4, 4}};
         for (int kind = 1; kind < 7; kind++) {
             BrickModels m = new BrickModels();
@@ -859,7 +733,7 @@ public final class PromiseTests {
     }
 
     private static void lacks() {
-        promise = 24;
+        tested = "promise 24";
         BrickModels m = new BrickModels();
         m.place(0, 0, 0, 0, 0, 1);
         m.place(0, 0, 1, 0, 0, 1);
@@ -880,7 +754,7 @@ public final class PromiseTests {
     }
 
     private static void order() {
-        promise = 25;
+        tested = "promise 25";
         BrickModels m = new BrickModels();
         m.place(4, 0, 0, 0, 2, 1);
         m.place(4, 0, 0, 0, 1, 1);
@@ -971,7 +845,7 @@ public final class PromiseTests {
     }
 
     private static void seen() {
-        promise = 26;
+        tested = "promise 26";
         BrickModels m = new BrickModels();
         m.place(0, 0, 1, 1, 0, 1);
         m.place(0, 0, 4, 1, 0, 2);
@@ -1008,7 +882,7 @@ public final class PromiseTests {
     }
 
     private static void brickOf() {
-        promise = 27;
+        tested = "promise 27";
         BrickModels m = new BrickModels();
         some(m);
         int[][] want = {{4, 0, 0, 0, 0, 1, 0}, {6, 0, 0, 0, 1, 2, 0}, {0, 1, 5, 5, 3, 3, 0}, {1, 1, 4, 4, 0, 4, 1}};
@@ -1026,7 +900,7 @@ public final class PromiseTests {
     }
 
     private static void count() {
-        promise = 28;
+        tested = "promise 28";
         BrickModels m = new BrickModels();
         some(m);
         int[] want = {4, 3, 4, 0, 1, 2};
