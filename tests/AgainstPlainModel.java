@@ -24,6 +24,9 @@ public final class AgainstPlainModel {
         for (int seed = 0; seed < 900 && wrong <= 20; seed++) {
             new Run(seed).coverMuch();
         }
+        for (int seed = 0; seed < 900 && wrong <= 20; seed++) {
+            new Run(seed).buildMuch();
+        }
         System.out.println(wrong == 0 ? "all answers are as due" : wrong + " answers are not as due");
         if (wrong != 0) {
             System.exit(1);
@@ -85,6 +88,51 @@ public final class AgainstPlainModel {
             due("seams(true)", real.seams(true), plain.seams(true));
             due(call("lay", 3, z), real.lay(3, z), plain.lay(3, z));
             due("seams(true)", real.seams(true), plain.seams(true));
+        }
+
+        /** Up to 12 BRICKS dropped on one another close together, numbered in any order. */
+        void buildMuch() {
+            int grip = 1 + upTo(8);
+            due(call("grip", grip), real.grip(grip), plain.grip(grip));
+            List<Plain.Brick> dropped = dropSome(5 + upTo(7));
+            Collections.shuffle(dropped, random);
+            for (Plain.Brick b : dropped) {
+                put(b.kind, b.turn, b.x, b.y, b.z, b.colour);
+            }
+            askBuilding();
+            int another = 1 + upTo(39);
+            due(call("grip", another), real.grip(another), plain.grip(another));
+            askBuilding();
+            int brick = aBrick();
+            due(call("take", brick), real.take(brick), plain.take(brick));
+            askBuilding();
+        }
+
+        /** Now and then one is put a LAYER too high: it may come to hang from what is dropped on it. */
+        List<Plain.Brick> dropSome(int most) {
+            Plain pile = new Plain();
+            int wide = 3 + upTo(2);
+            for (int i = 0; i < 60 && pile.bricks.size() < most; i++) {
+                Plain.Brick b = new Plain.Brick(upTo(6), upTo(1), random.nextInt(wide), upTo(2), 0, 1 + upTo(4));
+                int z = pile.topBelow(b) + (random.nextInt(12) == 0 ? 1 : 0);
+                if (z < 5) {
+                    pile.place(b.kind, b.turn, b.x, b.y, z, b.colour);
+                }
+            }
+            return new ArrayList<>(pile.bricks);
+        }
+
+        void askBuilding() {
+            due("sound()", real.sound(), plain.sound());
+            due("pieces()", real.pieces(), plain.pieces());
+            for (int b = 0; b < plain.bricks.size() && !failed; b++) {
+                due(call("key", b), real.key(b), plain.key(b));
+                due(call("weak", b), real.weak(b), plain.weak(b));
+            }
+            List<Integer> row = plain.row();
+            for (int k = 0; k < 13 && !failed; k++) {
+                due(call("order", k), real.order(k), k < row.size() ? row.get(k) : -9);
+            }
         }
 
         void put(int kind, int turn, int x, int y, int z, int colour) {
@@ -313,6 +361,16 @@ public final class AgainstPlainModel {
                 }
             }
             return -1;
+        }
+
+        /** The LAYER in which a BRICK that is dropped comes to lie. */
+        int topBelow(Brick fresh) {
+            int top = 0;
+            for (Brick it : bricks) {
+                boolean meets = it.x < fresh.endX() && fresh.x < it.endX() && it.y < fresh.endY() && fresh.y < it.endY();
+                top = meets ? Math.max(top, it.z + 1) : top;
+            }
+            return top;
         }
 
         int cell(int x, int y, int z, int v) {
@@ -949,14 +1007,18 @@ public final class AgainstPlainModel {
             return false;
         }
 
+        /** Empty if there is no ORDER. */
+        List<Integer> row() {
+            List<Integer> row = new ArrayList<>();
+            return build(row, there(), new HashSet<>()) ? row : new ArrayList<>();
+        }
+
         int order(int k) {
-            List<Integer> all = there();
-            if (all.size() > 12) {
+            if (there().size() > 12) {
                 return refuse(-6);
             }
-            List<Integer> row = new ArrayList<>();
-            boolean built = build(row, all, new HashSet<>());
-            return built && k >= 0 && k < row.size() ? row.get(k) : -9;
+            List<Integer> row = row();
+            return k >= 0 && k < row.size() ? row.get(k) : -9;
         }
 
         int seen(int side, int u, int v) {
